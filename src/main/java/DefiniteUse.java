@@ -352,13 +352,13 @@ public final class DefiniteUse {
         }
         for (int round = 0; round < size; round++) {
             for (int p = size - 1; p >= 0; p--) {
-                wantedAt[p] = wantedFrom(p);
+                int behind = wantedBehind(p);
+                wantedAt[p] = wantedBefore(p, behind);
             }
         }
     }
 
-    private int wantedFrom(int p) {
-        int behind = wantedBehind(p);
+    private int wantedBefore(int p, int behind) {
         switch (kinds[p]) {
             case SET:
                 return behind & ~variableBit(p);
