@@ -25,6 +25,7 @@ public final class ModelTest {
 
     private int[] kinds = new int[0];
     private int[] variables = new int[0];
+    private int calls = 0;
 
     public static void main(String[] args) {
         everyShortProgram();
@@ -62,7 +63,7 @@ public final class ModelTest {
             model.add(x, kind, below(names));
         }
         model.compare(x);
-        for (int step = 0; step < 3 && model.kinds.length > 0; step++) {
+        for (int step = 0; step < 3 && model.kinds.length > 0 && model.mayCompareAgain(); step++) {
             if (below(4) == 0) {
                 model.drop(x);
             } else {
@@ -114,7 +115,13 @@ public final class ModelTest {
         return (int) ((seed >>> 33) % bound);
     }
 
+    /** The document grants 512 calls: a step and a comparison take at most 1 and 214. */
+    private boolean mayCompareAgain() {
+        return calls + 215 <= 512;
+    }
+
     private void add(DefiniteUse x, int kind, int v) {
+        calls++;
         CHECKS.due("add to " + this, x.add(kind, v), kinds.length);
         kinds = java.util.Arrays.copyOf(kinds, kinds.length + 1);
         variables = java.util.Arrays.copyOf(variables, kinds.length);
@@ -123,18 +130,21 @@ public final class ModelTest {
     }
 
     private void change(DefiniteUse x, int p, int kind, int v) {
+        calls++;
         CHECKS.due("change in " + this, x.change(p, kind, v), kinds[p]);
         kinds[p] = kind;
         variables[p] = v;
     }
 
     private void drop(DefiniteUse x) {
+        calls++;
         CHECKS.due("drop from " + this, x.drop(), kinds.length - 1);
         kinds = java.util.Arrays.copyOf(kinds, kinds.length - 1);
         variables = java.util.Arrays.copyOf(variables, kinds.length);
     }
 
     private void compare(DefiniteUse x) {
+        calls += 5 * (kinds.length + 2) + 4;
         boolean sound = isSound();
         CHECKS.due("sound: " + this, x.sound(), sound);
         BitSet[] seen = sound ? statesSeen() : null;
