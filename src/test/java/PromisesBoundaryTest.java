@@ -432,8 +432,9 @@ public final class PromisesBoundaryTest {
     private static void dropOfNoneChangesNothing() {
         DefiniteUse x = new DefiniteUse();
         x.drop();
+        CHECKS.dueIs("a drop of none", x, "");
         x.drop();
-        CHECKS.dueIs("drops of none", x, "");
+        CHECKS.dueIs("a second drop of none", x, "");
         due("the next add", x.add(USE, 5), 0);
         CHECKS.dueIs("the next add", x, "use5");
         due("the next drop", x.drop(), 0);

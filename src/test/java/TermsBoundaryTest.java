@@ -469,6 +469,16 @@ public final class TermsBoundaryTest {
         due("drop", x.drop(), 3);
         due("idle when sound again", x.idle(0), true);
         due("endOf when sound again", x.endOf(1), 2);
+        DefiniteUse changed = program("set0 use1");
+        due("completes while sound", changed.completes(), true);
+        due("change", changed.change(1, END, 0), USE);
+        due("completes when changed", changed.completes(), false);
+        due("doubts when changed", changed.doubts(), NOT_SOUND);
+        due("idles when changed", changed.idles(), NOT_SOUND);
+        DefiniteUse dropped = program("if end");
+        due("the drop", dropped.drop(), 1);
+        due("completes without the end", dropped.completes(), false);
+        due("reached without the end", dropped.reached(0), false);
     }
 
     private static void notSoundFirst() {
